@@ -24,7 +24,7 @@ public final class OrderedVolume {
     private static final int DIRECTORY = 2;
     private static final int FALLEN = 1;
     private static final int RELEASED = 2;
-    // Far above any need: every pass but the last few moves an entry or gives something back.
+    // The document tells no bound for these: a SYNC needs some tens of passes at the very most.
     private static final int MOST_PASSES = 100000;
     private static final int MOST_ROUNDS = 1000;
 

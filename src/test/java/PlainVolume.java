@@ -609,6 +609,27 @@ final class PlainVolume {
         return kind < 0 || kind > 5 ? -1 : found[kind];
     }
 
+    /** The inodes of the tree of that KIND. */
+    List<Integer> inodes(int kind) {
+        List<Integer> found = new ArrayList<>();
+        for (int i : below(memory, 0)) {
+            if (kind(memory, i) == kind) {
+                found.add(i);
+            }
+        }
+        return found;
+    }
+
+    List<Integer> names(int d) {
+        List<Integer> found = new ArrayList<>();
+        if (inTree(d, 2)) {
+            for (int v : entries(memory, d)) {
+                found.add(v / 32);
+            }
+        }
+        return found;
+    }
+
     int image(int b, int c) {
         return b < 0 || b > 35 || c < 0 || c >= disk[b].length ? 0 : disk[b][c];
     }

@@ -1,8 +1,9 @@
+import java.util.List;
 import java.util.Random;
 
 /** Many runs of random calls, each answer and each cell compared with those of PlainVolume. */
 public final class RandomRunsTest {
-    private static final int RUNS = Integer.getInteger("runs", 1500);
+    private static final int RUNS = Integer.getInteger("runs", 500);
     private static final int CALLS = 512;
     private static int mostPasses = 0;
     private static final int[] answers = new int[17 * 6];
@@ -37,9 +38,10 @@ public final class RandomRunsTest {
             int call = pick(random, style);
             long got = 0;
             long want = 0;
-            int d = inode(random);
-            int e = inode(random);
-            int name = name(random, style);
+            boolean onFile = call == 5 || call == 6 || call == 7;
+            int d = inode(random, plain, onFile ? 1 : 2);
+            int e = inode(random, plain, call == 2 ? 1 : 2);
+            int name = call == 3 || call == 4 || call == 8 ? usedName(random, style, plain, d) : name(random, style);
             int other = name(random, style);
             String text;
             switch (call) {
@@ -154,15 +156,24 @@ public final class RandomRunsTest {
         return n < 15 ? 1 : n < 25 ? 2 : n < 28 ? 3 : n < 35 ? 4 : n < 75 ? 5 : n < 80 ? 7 : n < 99 ? 9 : 11;
     }
 
-    private static int inode(Random random) {
+    /** Mostly an inode of the tree of that KIND, at times any number. */
+    private static int inode(Random random, PlainVolume plain, int kind) {
         int n = random.nextInt(40);
-        return n == 0 ? random.nextInt(40) - 10 : n < 12 ? 0 : random.nextInt(18);
+        List<Integer> some = plain.inodes(kind);
+        return n == 0 ? random.nextInt(40) - 10
+            : n < 4 || some.isEmpty() ? random.nextInt(18) : some.get(random.nextInt(some.size()));
+    }
+
+    private static int usedName(Random random, int style, PlainVolume plain, int d) {
+        List<Integer> used = plain.names(d);
+        boolean any = used.isEmpty() || random.nextInt(10) == 0;
+        return any ? name(random, style) : used.get(random.nextInt(used.size()));
     }
 
     private static int name(Random random, int style) {
         int n = random.nextInt(80);
         return n == 0 ? random.nextInt(2200) - 600 : n == 1 ? 0 : n == 2 ? 1000 : n == 3 ? 999
-            : 1 + random.nextInt(style == 4 ? 4 : 9);
+            : 1 + random.nextInt(style == 4 ? 4 : 12);
     }
 
     private static boolean sameCells(OrderedVolume volume, PlainVolume plain, String where) {

@@ -1,0 +1,73 @@
+/** Promise 5: rename. */
+public final class Promise05RenameTest {
+    public static void main(String[] args) {
+        moves();
+        refusals();
+        order();
+        places();
+        Due.end();
+    }
+
+    private static void moves() {
+        Calls.run("what the disk never had",
+            "create(0, 1, false) = 1", "rename(0, 1, 0, 2) = 1", "lookup(0, 1) = NONE", "lookup(0, 2) = 1",
+            "cached(2, 0) = 0", "cached(2, 1) = 65", "cached(1, 6) = 1", "rename(0, 2, 0, 999) = 1",
+            "cached(2, 0) = 31969", "cached(2, 1) = 0");
+        Calls.run("what the disk has",
+            "create(0, 1, false) = 1", "create(0, 2, true) = 6", "write(1, 5, 9) = 3", "sync() = 3",
+            "rename(0, 1, 6, 1) = 1", "cached(1, 6) = 2", "cached(14, 0) = 33", "cached(2, 0) = 0",
+            "read(1, 5) = 9", "flush(2) = 1", "flush(1) = 0", "image(1, 6) = 2", "flush(14) = 0", "flush(2) = 0",
+            "cached(1, 6) = 1", "image(1, 6) = 2", "lookup(6, 1) = 1");
+        Calls.run("a directory with what is in it",
+            "create(0, 1, true) = 6", "create(0, 2, true) = 12", "create(6, 3, false) = 7",
+            "rename(0, 1, 12, 4) = 6", "lookup(12, 4) = 6", "lookup(6, 3) = 7", "lookup(0, 1) = NONE",
+            "cached(13, 1) = 1", "rename(0, 2, 6, 1) = BUSY", "rename(12, 4, 0, 1) = 6", "rename(0, 2, 6, 1) = 12");
+    }
+
+    private static void refusals() {
+        Calls.run("NONE before all else",
+            "create(0, 1, false) = 1", "create(0, 2, true) = 6", "rename(0, 3, 0, 4) = NONE",
+            "rename(0, 0, 0, 4) = NONE", "rename(0, -1, 0, 4) = NONE", "rename(0, 1000, 0, 4) = NONE",
+            "rename(0, 1, 0, 0) = NONE", "rename(0, 1, 0, 1000) = NONE", "rename(0, 1, 0, -1) = NONE",
+            "rename(0, 1, 1, 4) = NONE", "rename(0, 1, 7, 4) = NONE", "rename(0, 1, -1, 4) = NONE",
+            "rename(0, 1, 18, 4) = NONE", "rename(1, 1, 0, 4) = NONE", "rename(-1, 1, 0, 4) = NONE",
+            "rename(18, 1, 0, 4) = NONE", "rename(MAX, 1, MIN, 4) = NONE", "rename(0, 3, 0, 1) = NONE",
+            "rename(0, 2, 0, MIN) = NONE", "cached(2, 0) = 33", "cached(2, 1) = 70");
+        Calls.run("EXISTS, also the old one itself",
+            "create(0, 1, false) = 1", "create(0, 2, true) = 6", "create(6, 1, false) = 7",
+            "rename(0, 1, 0, 1) = EXISTS", "rename(0, 1, 0, 2) = EXISTS", "rename(0, 1, 6, 1) = EXISTS",
+            "rename(0, 2, 0, 2) = EXISTS", "cached(2, 0) = 33", "cached(1, 6) = 1");
+        Calls.run("BUSY, below at any depth",
+            "create(0, 1, true) = 6", "create(6, 2, true) = 12", "create(12, 3, true) = 1",
+            "rename(0, 1, 6, 9) = BUSY", "rename(0, 1, 12, 9) = BUSY", "rename(0, 1, 1, 9) = BUSY",
+            "rename(6, 2, 12, 9) = BUSY", "rename(6, 2, 1, 9) = BUSY", "rename(12, 3, 1, 9) = BUSY",
+            "rename(12, 3, 6, 9) = 1", "rename(6, 2, 1, 9) = 12", "rename(0, 1, 12, 9) = BUSY",
+            "rename(0, 1, 0, 9) = 6");
+    }
+
+    private static void order() {
+        Calls.run("EXISTS before BUSY before FULL",
+            "create(0, 1, true) = 6", "create(6, 1, false) = 7", "create(6, 2, false) = 8",
+            "create(6, 3, false) = 9", "create(6, 4, false) = 10", "create(6, 5, false) = 11",
+            "create(6, 6, false) = 12", "create(6, 7, false) = 13", "create(6, 8, false) = 14",
+            "rename(0, 1, 6, 8) = EXISTS", "rename(0, 1, 6, 9) = BUSY", "rename(6, 1, 6, 8) = EXISTS",
+            "rename(6, 1, 6, 9) = FULL", "image(12, 0) = 0", "create(0, 2, false) = 1", "rename(0, 2, 6, 9) = FULL",
+            "rename(0, 2, 6, 1) = EXISTS", "image(0, 1) = 0", "rename(6, 1, 0, 9) = 7", "rename(0, 2, 6, 9) = 1");
+    }
+
+    private static void places() {
+        Calls.run("a SYNC first when there is no place",
+            "create(0, 1, true) = 6", "create(6, 1, false) = 7", "create(6, 2, false) = 8",
+            "create(6, 3, false) = 9", "create(6, 4, false) = 10", "create(6, 5, false) = 11",
+            "create(6, 6, false) = 12", "create(6, 7, false) = 13", "create(6, 8, false) = 14",
+            "create(0, 2, false) = 1", "sync() = 3", "remove(6, 5) = 11", "image(14, 4) = 171",
+            "rename(0, 2, 6, 9) = 1", "image(14, 4) = 0", "cached(14, 4) = 289", "image(2, 1) = 65",
+            "cached(2, 1) = 0", "cached(1, 6) = 2");
+        Calls.run("within one directory",
+            "create(0, 1, false) = 1", "create(0, 2, false) = 2", "create(0, 3, false) = 3",
+            "create(0, 4, false) = 4", "create(0, 5, false) = 5", "create(0, 6, false) = 6",
+            "create(0, 7, false) = 7", "sync() = 2", "rename(0, 1, 0, 8) = 1", "cached(2, 7) = 257",
+            "cached(2, 0) = 0", "image(2, 0) = 33", "rename(0, 2, 0, 9) = 2", "image(2, 0) = 0",
+            "cached(2, 0) = 290", "cached(2, 1) = 0", "image(2, 1) = 66");
+    }
+}
