@@ -7,6 +7,7 @@ public final class Promise02CreateTest {
         places();
         noInode();
         noBlock();
+        edges();
         Due.end();
     }
 
@@ -119,5 +120,37 @@ public final class Promise02CreateTest {
             "sync() = 3", "cut(1, 2) = 1", "create(6, 1, true) = 12", "cached(25, 2) = 5", "image(1, 9) = 0");
         Calls.on(withoutBlocks(), "the block of another group",
             "cut(1, 2) = 1", "create(6, 1, true) = 12", "cached(25, 2) = 5", "cached(0, 9) = 1");
+    }
+
+    private static void edges() {
+        Calls.run("a name 1 .. 999, for a file and for a directory",
+            "create(0, 0, false) = NONE", "create(0, 0, true) = NONE", "create(0, 1, false) = 1",
+            "create(0, 2, true) = 6", "create(0, 998, false) = 2", "create(0, 999, true) = 12",
+            "create(0, 1000, false) = NONE", "create(0, 1000, true) = NONE", "create(6, 1, true) = 7",
+            "create(6, 999, false) = 8", "lookup(0, 1) = 1", "lookup(0, 999) = 12", "lookup(6, 999) = 8");
+        Calls.run("d, the least and the greatest inode",
+            "create(-1, 1, false) = NONE", "create(18, 1, false) = NONE", "create(17, 1, false) = NONE",
+            "create(0, 1, false) = 1");
+        Calls.on(Setups.everyInode(), "d is 17",
+            "remove(12, 5) = 17", "create(12, 5, true) = 17", "remove(0, 3) = 1", "create(17, 1, false) = 1",
+            "lookup(17, 1) = 1", "create(18, 1, false) = NONE");
+        Calls.run("its KIND is set, a directory's first pointer names its block, an entry is made: LINKS 1",
+            "create(0, 1, true) = 6", "cached(13, 0) = 2", "cached(13, 1) = 1", "cached(13, 2) = 14",
+            "cached(13, 3) = 0", "cached(13, 4) = 0", "cached(2, 0) = 38", "create(6, 2, false) = 7",
+            "cached(13, 5) = 1", "cached(13, 6) = 1", "cached(13, 7) = 0", "cached(14, 0) = 71");
+        Calls.run("seven entries are not eight",
+            "create(0, 1, false) = 1", "create(0, 2, false) = 2", "create(0, 3, false) = 3",
+            "create(0, 4, false) = 4", "create(0, 5, false) = 5", "create(0, 6, false) = 6",
+            "create(0, 7, false) = 7", "create(0, 8, true) = 12", "create(0, 9, true) = FULL",
+            "remove(0, 1) = 1", "create(0, 9, true) = 13");
+        Calls.run("eight in memory, not on the disk: one that is removed does not count",
+            "create(0, 1, false) = 1", "link(0, 2, 1) = 2", "link(0, 3, 1) = 3", "link(0, 4, 1) = 4",
+            "link(0, 5, 1) = 5", "link(0, 6, 1) = 6", "link(0, 7, 1) = 7", "link(0, 8, 1) = 8", "sync() = 1",
+            "create(0, 9, false) = FULL", "remove(0, 8) = 1", "create(0, 8, false) = 2", "cached(2, 7) = 258");
+        Calls.on(Setups.everyBlock(), "a file needs no block, and no SYNC is made for it",
+            "create(0, 7, false) = 5", "image(0, 1) = 0", "create(0, 8, true) = FULL", "image(0, 5) = 1");
+        Calls.on(Setups.everyInode(), "the last free inode, and none",
+            "remove(0, 7) = 5", "create(0, 7, false) = 5", "image(0, 1) = 0", "create(0, 8, false) = FULL",
+            "image(0, 1) = 1");
     }
 }

@@ -25,6 +25,16 @@ public final class Promise03LinkTest {
         Calls.run("no SYNC when there is a place",
             "create(0, 1, false) = 1", "sync() = 1", "link(0, 2, 1) = 2", "remove(0, 1) = 1", "cached(1, 6) = 2",
             "link(0, 3, 1) = 3", "cached(2, 2) = 97", "image(2, 0) = 33");
+        Calls.run("a name 1 .. 999",
+            "create(0, 5, false) = 1", "link(0, 0, 1) = NONE", "link(0, 1, 1) = 2", "link(0, 999, 1) = 3",
+            "link(0, 1000, 1) = NONE", "cached(2, 1) = 33", "cached(2, 2) = 31969");
+        Calls.run("seven entries and eight, and more LINKS than one directory has entries",
+            "create(0, 1, false) = 1", "link(0, 2, 1) = 2", "link(0, 3, 1) = 3", "link(0, 4, 1) = 4",
+            "link(0, 5, 1) = 5", "link(0, 6, 1) = 6", "create(0, 7, true) = 6", "link(0, 8, 1) = 7",
+            "link(0, 9, 1) = FULL", "link(6, 9, 1) = 8", "link(6, 10, 1) = 9", "sync() = 3", "image(1, 6) = 9");
+        Calls.on(Setups.everyInode(), "without a free inode or a SYNC",
+            "link(0, 8, 17) = 2", "image(0, 1) = 0", "link(12, 8, 1) = 2", "cached(26, 5) = 257", "image(0, 1) = 0");
+        Calls.on(Setups.everyBlock(), "without a free block or a SYNC", "link(0, 8, 14) = 2", "image(0, 1) = 0");
         Due.end();
     }
 }

@@ -2,6 +2,7 @@
 public final class Promise04RemoveTest {
     public static void main(String[] args) {
         refusals();
+        emptyAndFull();
         atOnce();
         later();
         directories();
@@ -19,6 +20,19 @@ public final class Promise04RemoveTest {
             "create(0, 1, true) = 6", "create(6, 2, false) = 7", "remove(0, 1) = BUSY", "lookup(0, 1) = 6",
             "remove(0, 2) = NONE", "remove(6, 2) = 7", "remove(0, 1) = 6", "lookup(0, 1) = NONE",
             "remove(6, 2) = NONE");
+    }
+
+    private static void emptyAndFull() {
+        Calls.run("an entry in memory: none, one, and one that the disk alone has",
+            "create(0, 1, true) = 6", "remove(0, 1) = 6", "create(0, 1, true) = 6", "create(6, 1, false) = 7",
+            "remove(0, 1) = BUSY", "sync() = 3", "remove(0, 1) = BUSY", "remove(6, 1) = 7", "image(14, 0) = 39",
+            "remove(0, 1) = 6");
+        Calls.on(Setups.fullRoot(), "all eight entries, and then none",
+            "remove(0, 8) = 12", "remove(0, 7) = 7", "remove(0, 6) = 6", "remove(0, 5) = 5", "remove(0, 4) = 4",
+            "remove(0, 3) = 3", "remove(0, 2) = 2", "remove(0, 1) = 1", "remove(0, 1) = NONE", "sync() = 0");
+        Calls.run("names 1 and 999, and those beside",
+            "create(0, 1, false) = 1", "create(0, 999, false) = 2", "remove(0, 0) = NONE", "remove(0, 2) = NONE",
+            "remove(0, 998) = NONE", "remove(0, 1000) = NONE", "remove(0, 999) = 2", "remove(0, 1) = 1");
     }
 
     private static void atOnce() {

@@ -5,6 +5,7 @@ public final class Promise05RenameTest {
         refusals();
         order();
         places();
+        edges();
         Due.end();
     }
 
@@ -69,5 +70,29 @@ public final class Promise05RenameTest {
             "create(0, 7, false) = 7", "sync() = 2", "rename(0, 1, 0, 8) = 1", "cached(2, 7) = 257",
             "cached(2, 0) = 0", "image(2, 0) = 33", "rename(0, 2, 0, 9) = 2", "image(2, 0) = 0",
             "cached(2, 0) = 290", "cached(2, 1) = 0", "image(2, 1) = 66");
+    }
+
+    private static void edges() {
+        Calls.run("newName 1 .. 999",
+            "create(0, 5, false) = 1", "rename(0, 5, 0, 0) = NONE", "rename(0, 5, 0, 1) = 1",
+            "rename(0, 1, 0, 999) = 1", "rename(0, 999, 0, 1000) = NONE", "lookup(0, 999) = 1");
+        Calls.run("e is it, is below it, is beside it, is above it",
+            "create(0, 1, true) = 6", "create(6, 1, true) = 12", "create(0, 2, true) = 1", "create(1, 1, true) = 7",
+            "rename(0, 1, 6, 2) = BUSY", "rename(0, 1, 12, 2) = BUSY", "rename(6, 1, 12, 2) = BUSY",
+            "rename(6, 1, 6, 2) = 12", "rename(6, 2, 0, 3) = 12", "rename(0, 1, 12, 1) = 6", "rename(12, 1, 7, 1) = 6",
+            "rename(0, 2, 6, 1) = BUSY", "rename(0, 3, 6, 1) = 12", "lookup(6, 1) = 12", "lookup(7, 1) = 6");
+        Calls.run("seven entries in e, which is d: the eighth is made before the old one is taken away",
+            "create(0, 1, false) = 1", "link(0, 2, 1) = 2", "link(0, 3, 1) = 3", "link(0, 4, 1) = 4",
+            "link(0, 5, 1) = 5", "link(0, 6, 1) = 6", "link(0, 7, 1) = 7", "rename(0, 7, 0, 8) = 1",
+            "cached(2, 7) = 257", "cached(2, 6) = 0", "cached(1, 6) = 7", "link(0, 9, 1) = 8",
+            "rename(0, 8, 0, 10) = FULL", "rename(0, 8, 0, 9) = EXISTS");
+        Calls.on(Setups.fullRoot(), "from a full directory into an empty one",
+            "rename(0, 1, 12, 1) = 1", "lookup(12, 1) = 1", "cached(26, 0) = 33", "cached(2, 0) = 0",
+            "rename(12, 1, 0, 9) = 1", "cached(2, 0) = 289", "cached(26, 0) = 0");
+        Calls.run("of two links the one with that name",
+            "create(0, 1, false) = 1", "link(0, 2, 1) = 2", "rename(0, 2, 0, 3) = 1", "lookup(0, 1) = 1",
+            "lookup(0, 2) = NONE", "lookup(0, 3) = 1", "cached(1, 6) = 2");
+        Calls.on(Setups.everyInode(), "without a free inode or a SYNC",
+            "rename(0, 3, 0, 8) = 1", "image(0, 1) = 0", "rename(0, 1, 12, 8) = 6", "image(0, 1) = 0");
     }
 }

@@ -14,6 +14,19 @@ public final class Promise06WriteTest {
             "cached(0, 7) = 0", "remove(0, 1) = 1", "write(1, 0, 5) = NONE");
         blocks();
         full();
+        Calls.run("w, 0 .. 23: the least and the greatest word of each block",
+            "create(0, 1, false) = 1", "write(1, -1, 5) = NONE", "write(1, 24, 5) = NONE", "cached(0, 7) = 0",
+            "write(1, 23, 5) = 3", "write(1, 16, 6) = 3", "write(1, 15, 7) = 4", "write(1, 8, 8) = 4",
+            "write(1, 7, 9) = 5", "write(1, 0, 1) = 5", "cached(3, 7) = 5", "cached(3, 0) = 6", "cached(4, 7) = 7",
+            "cached(4, 0) = 8", "cached(5, 7) = 9", "cached(5, 0) = 1", "cached(1, 7) = 5", "cached(1, 9) = 3");
+        Calls.run("v 0 takes a block too",
+            "create(0, 1, false) = 1", "write(1, 0, 0) = 3", "cached(1, 7) = 3", "cached(0, 7) = 1");
+        Calls.on(Setups.everyBlock(), "the last free block, and none",
+            "cut(14, 2) = 1", "write(14, 16, 1) = 35", "image(0, 1) = 0", "create(12, 3, false) = 15",
+            "write(15, 0, 1) = FULL", "image(0, 1) = 1", "cached(25, 17) = 0", "read(15, 0) = 0");
+        Calls.on(Setups.everyBlock(), "a SYNC frees one: that right after the pointer before, if it is that",
+            "create(12, 3, false) = 15", "sync() = 3", "cut(1, 1) = 2", "cached(0, 8) = 1", "write(1, 16, 9) = 4",
+            "image(0, 8) = 0", "write(1, 8, 9) = 5", "write(15, 0, 9) = FULL");
         Due.end();
     }
 

@@ -19,6 +19,19 @@ public final class Promise08CutTest {
             "cached(1, 8) = 0", "cached(0, 8) = 1", "image(1, 8) = 4", "write(1, 8, 9) = 5", "flush(0) = 0",
             "cached(0, 8) = 1", "flush(1) = 1", "image(1, 8) = 4", "cached(0, 8) = 1", "flush(5) = 0",
             "flush(1) = 0", "image(1, 8) = 5", "cached(0, 8) = 0", "image(0, 8) = 1", "image(4, 0) = 2");
+        Calls.run("n 0 .. 3, and those beside",
+            "create(0, 1, false) = 1", "write(1, 0, 1) = 3", "write(1, 8, 2) = 4", "write(1, 16, 3) = 5",
+            "cut(1, -1) = NONE", "cut(1, 4) = NONE", "cut(1, 3) = 0", "cached(1, 9) = 5", "cut(1, 2) = 1",
+            "cached(1, 9) = 0", "cached(1, 8) = 4", "cut(1, 1) = 1", "cached(1, 8) = 0", "cached(1, 7) = 3",
+            "cut(1, 0) = 1", "cached(1, 7) = 0", "cut(1, 0) = 0");
+        Calls.run("all three at once, and a file without blocks",
+            "create(0, 1, false) = 1", "cut(1, 0) = 0", "write(1, 0, 1) = 3", "write(1, 8, 2) = 4",
+            "write(1, 16, 3) = 5", "cut(1, 0) = 3", "cut(1, 0) = 0", "cached(0, 7) = 0", "cached(0, 9) = 0");
+        Calls.run("of the last inode and the last block",
+            "create(0, 1, true) = 6", "create(0, 2, true) = 12", "create(12, 1, false) = 13", "cut(17, 0) = NONE",
+            "cut(18, 0) = NONE", "cut(13, 0) = 0");
+        Calls.on(Setups.everyBlock(), "block 35", "cut(14, 2) = 1", "cached(24, 15) = 0", "cut(14, 0) = 2",
+            "cached(24, 13) = 0");
         Due.end();
     }
 }

@@ -13,6 +13,14 @@ public final class Promise09LookupTest {
             "create(0, 1, true) = 6", "create(6, 2, false) = 7", "sync() = 3", "remove(6, 2) = 7",
             "remove(0, 1) = 6", "flush(2) = 0", "crash() = true", "cached(13, 0) = 2", "cached(14, 0) = 71",
             "lookup(6, 2) = NONE", "create(6, 3, false) = NONE");
+        Calls.on(Setups.fullRoot(), "the entry in the first and in the last cell",
+            "lookup(0, 1) = 1", "lookup(0, 8) = 12", "lookup(0, 9) = NONE", "lookup(12, 1) = NONE");
+        Calls.run("names 1 and 999, and those beside",
+            "create(0, 1, false) = 1", "create(0, 999, false) = 2", "lookup(0, 0) = NONE", "lookup(0, 1) = 1",
+            "lookup(0, 2) = NONE", "lookup(0, 998) = NONE", "lookup(0, 999) = 2", "lookup(0, 1000) = NONE");
+        Calls.run("in memory, not on the disk",
+            "create(0, 1, false) = 1", "sync() = 1", "remove(0, 1) = 1", "image(2, 0) = 33", "lookup(0, 1) = NONE",
+            "create(0, 1, false) = 2", "lookup(0, 1) = 2");
         Due.end();
     }
 }

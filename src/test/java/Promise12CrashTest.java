@@ -8,8 +8,40 @@ public final class Promise12CrashTest {
             "create(0, 1, false) = 1", "write(1, 0, 7) = 3", "sync() = 2", "write(1, 0, 8) = 3", "remove(0, 1) = 1",
             "crash() = true", "lookup(0, 1) = 1", "read(1, 0) = 7", "image(3, 0) = 7");
         directoryRenames();
+        everySync();
         nothingIsLeft();
         Due.end();
+    }
+
+    /** The SYNC that lifts the refusal, in whatever call that was. */
+    private static void everySync() {
+        Calls.run("sync, also when it takes no pass",
+            "create(0, 1, true) = 6", "sync() = 3", "rename(0, 1, 0, 2) = 6", "flush(13) = 0", "flush(2) = 1",
+            "flush(2) = 0", "flush(13) = 0", "crash() = false", "sync() = 0", "crash() = true", "lookup(0, 2) = 6");
+        Calls.on(Setups.noPlace(), "link", "rename(0, 8, 12, 1) = BUSY", "create(12, 1, true) = 13",
+            "rename(12, 1, 12, 2) = 13", "crash() = false", "link(12, 3, 1) = 2", "crash() = false",
+            "link(0, 9, 1) = 3", "crash() = true", "lookup(12, 2) = 13", "lookup(0, 9) = NONE");
+        Calls.on(Setups.noPlace(), "the rename of a file",
+            "create(12, 1, true) = 13", "rename(12, 1, 12, 2) = 13", "crash() = false", "rename(0, 1, 0, 9) = 1",
+            "crash() = true", "lookup(12, 2) = 13", "lookup(0, 1) = 1");
+        Calls.on(Setups.noPlace(), "the rename of a directory makes its SYNC before",
+            "rename(0, 8, 0, 9) = 12", "image(2, 2) = 0", "crash() = false", "sync() = 2", "crash() = true");
+        Calls.on(Setups.everyInode(), "create, also a refused one",
+            "rename(0, 1, 0, 8) = 6", "crash() = false", "create(0, 8, false) = EXISTS", "crash() = false",
+            "create(0, 9, false) = FULL", "crash() = true", "lookup(0, 8) = 6");
+        Calls.on(Setups.everyBlock(), "write, also a refused one",
+            "create(12, 3, false) = 15", "rename(0, 1, 0, 8) = 6", "write(15, 24, 1) = NONE", "crash() = false",
+            "write(1, 0, 1) = 3", "crash() = false", "write(15, 0, 1) = FULL", "crash() = true", "lookup(0, 8) = 6");
+        Calls.on(Setups.everyBlock(), "write that succeeds after its SYNC",
+            "create(12, 3, false) = 15", "sync() = 3", "rename(0, 1, 0, 8) = 6", "cut(1, 2) = 1", "crash() = false",
+            "write(15, 0, 1) = 5", "crash() = true", "read(15, 0) = 0", "lookup(0, 8) = 6");
+        Calls.run("reclaim",
+            "create(0, 1, true) = 6", "rename(0, 1, 0, 2) = 6", "crash() = false", "reclaim() = 0", "crash() = true");
+        Calls.run("since the beginning: nothing has been renamed",
+            "crash() = true", "create(0, 1, true) = 6", "crash() = true", "lookup(0, 1) = NONE");
+        Calls.run("a directory that was renamed and then removed",
+            "create(0, 1, true) = 6", "sync() = 3", "rename(0, 1, 0, 2) = 6", "remove(0, 2) = 6", "crash() = false",
+            "sync() = 2", "crash() = true", "lookup(0, 1) = NONE", "lookup(0, 2) = NONE");
     }
 
     private static void directoryRenames() {
@@ -58,6 +90,13 @@ public final class Promise12CrashTest {
             "create(0, 1, false) = 1", "sync() = 1", "remove(0, 1) = 1", "flush(2) = 0", "cached(1, 5) = 0",
             "crash() = true", "cached(1, 5) = 1", "flush(1) = 0", "cached(0, 1) = 1", "lookup(0, 1) = NONE",
             "create(0, 1, false) = 2", "sync() = 1", "cached(0, 1) = 1", "cached(1, 5) = 1", "cached(1, 6) = 1");
+        Calls.on(Setups.everyInode(), "nothing is RELEASED: the last inode",
+            "sync() = 3", "remove(12, 5) = 17", "flush(26) = 0", "cached(25, 25) = 0", "crash() = true",
+            "cached(25, 25) = 1", "cached(24, 5) = 1", "reclaim() = 1", "create(12, 6, false) = 17", "flush(24) = 0",
+            "flush(0) = 0", "cached(24, 5) = 1", "sync() = 1");
+        Calls.on(Setups.everyBlock(), "nothing is DROPPED: the last block",
+            "sync() = 3", "cut(14, 2) = 1", "crash() = true", "cached(25, 14) = 35", "cached(24, 15) = 1",
+            "flush(25) = 0", "cached(24, 15) = 1", "read(14, 16) = 135", "sync() = 0");
         Calls.run("nothing is FRESH, memory is what the image shows",
             "create(0, 1, false) = 1", "write(1, 0, 7) = 3", "sync() = 2", "cut(1, 0) = 1", "flush(1) = 0",
             "write(1, 1, 8) = 3", "cached(3, 0) = 0", "image(3, 0) = 7", "crash() = true", "cached(3, 0) = 7",

@@ -8,6 +8,8 @@ public final class TermsLayoutTest {
         dataCells();
         entries();
         directoryWithoutBlock();
+        neighbours();
+        lastBlock();
         words();
         atFirst();
         manyCalls();
@@ -112,6 +114,42 @@ public final class TermsLayoutTest {
             "cached(13, 2) = 0", "lookup(6, 1) = NONE", "create(6, 1, false) = NONE", "remove(6, 1) = NONE",
             "sync() = 0", "create(0, 1, false) = 1", "sync() = 1", "reclaim() = 2", "cached(13, 0) = 0",
             "cached(12, 0) = 0", "cached(12, 6) = 0", "cached(0, 1) = 1");
+    }
+
+    /** Directory 8 has the block 16; file 7 has 15 and 17, whose words beside it look like entries. */
+    private static OrderedVolume between(int before, int after) {
+        return Setups.after("create(0, 1, true) = 6", "create(6, 1, false) = 7", "write(7, 7, " + before + ") = 15",
+            "create(0, 2, true) = 12", "create(0, 3, true) = 1", "create(0, 4, true) = 13", "create(0, 5, true) = 2",
+            "create(0, 6, true) = 8", "cached(13, 12) = 16", "write(7, 8, " + after + ") = 17",
+            "create(6, 2, false) = 9");
+    }
+
+    private static void neighbours() {
+        Calls.on(between(42, 74), "a directory's entries are in its own eight cells",
+            "lookup(8, 1) = NONE", "lookup(8, 2) = NONE", "write(10, 0, 1) = NONE", "remove(0, 6) = 8",
+            "lookup(0, 6) = NONE");
+        Calls.on(between(41, 73), "neighbours do not count among them",
+            "create(8, 1, false) = 10", "create(8, 2, false) = 11", "cached(16, 0) = 42", "cached(16, 1) = 75",
+            "remove(8, 1) = 10", "cached(15, 7) = 41", "cached(17, 0) = 73");
+        Calls.on(between(41, 73), "nor in LINKS",
+            "sync() = 3", "defects(4) = 0", "defects(5) = 0", "reclaim() = 0", "cached(13, 16) = 1", "image(13, 16) = 1");
+        Calls.on(between(41, 73), "nor are they written back with it",
+            "sync() = 3", "write(7, 7, 5) = 15", "write(7, 8, 6) = 17", "flush(16) = 0", "image(15, 7) = 41",
+            "image(17, 0) = 73", "flush(15) = 0", "image(15, 7) = 5", "flush(17) = 0", "image(17, 0) = 6",
+            "cached(13, 16) = 1");
+        Calls.on(between(41, 73), "nor do LINKS fall for them when it is freed",
+            "sync() = 3", "remove(0, 6) = 8", "sync() = 2", "cached(12, 8) = 0", "cached(13, 16) = 1",
+            "lookup(6, 2) = 9");
+    }
+
+    private static void lastBlock() {
+        Calls.on(Setups.everyBlock(), "a directory in block 35",
+            "cut(14, 2) = 1", "create(0, 7, true) = 15", "cached(25, 17) = 35", "create(15, 1, false) = 16",
+            "cached(35, 0) = 48", "flush(24) = 0", "flush(35) = 1", "image(35, 0) = 0", "flush(25) = 6",
+            "image(25, 17) = 35", "flush(35) = 0", "image(35, 0) = 48", "sync() = 3", "lookup(15, 1) = 16",
+            "crash() = true", "lookup(15, 1) = 16");
+        Calls.on(Setups.everyBlock(), "a crash takes the cells of block 35 too",
+            "sync() = 3", "write(14, 16, 9) = 35", "cached(35, 0) = 9", "crash() = true", "cached(35, 0) = 135");
     }
 
     private static void words() {

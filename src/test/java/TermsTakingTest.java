@@ -61,6 +61,15 @@ public final class TermsTakingTest {
             "create(12, 5, false) = 17", "create(12, 6, false) = 1", "create(0, 3, false) = 2",
             "create(0, 4, false) = 3", "create(0, 5, false) = 4", "create(0, 6, false) = 5",
             "create(12, 7, false) = 7", "create(0, 7, false) = 8");
+        Calls.on(Setups.everyInode(), "5 is of group 0",
+            "remove(0, 7) = 5", "create(0, 8, true) = 5", "remove(0, 6) = 4", "remove(6, 5) = 11",
+            "create(5, 1, false) = 4", "create(5, 2, false) = 11");
+        Calls.on(Setups.everyInode(), "11 is of group 1",
+            "remove(6, 5) = 11", "create(0, 8, true) = 11", "remove(6, 4) = 10", "remove(12, 5) = 17",
+            "create(11, 1, false) = 10", "create(11, 2, false) = 17");
+        Calls.on(Setups.everyInode(), "17 is of group 2",
+            "remove(12, 5) = 17", "create(0, 8, true) = 17", "remove(12, 4) = 16", "remove(0, 7) = 5",
+            "create(17, 1, false) = 16", "create(17, 2, false) = 5");
         Calls.run("always the least free one of the group",
             "create(0, 1, false) = 1", "create(0, 2, false) = 2", "create(0, 3, false) = 3", "create(0, 4, false) = 4",
             "remove(0, 4) = 4", "remove(0, 2) = 2", "create(0, 5, false) = 2", "create(0, 6, false) = 4",
@@ -83,6 +92,12 @@ public final class TermsTakingTest {
             "create(12, 1, true) = 13", "create(13, 1, true) = 2");
         Calls.on(Setups.everyInode(), "the only free inode is the last",
             "remove(12, 5) = 17", "create(0, 8, true) = 17", "cached(25, 27) = 27");
+        Calls.on(Setups.everyInode(), "the last inode of a group counts",
+            "remove(12, 5) = 17", "remove(12, 4) = 16", "remove(0, 6) = 4", "create(0, 8, true) = 16",
+            "create(0, 9, true) = 4", "create(6, 6, true) = 17");
+        Calls.on(Setups.everyInode(), "the first inode of a group counts",
+            "remove(12, 1) = 13", "remove(6, 1) = 7", "remove(6, 2) = 8", "remove(0, 3) = 1",
+            "create(0, 8, true) = 7", "create(0, 3, true) = 1");
         Calls.on(Setups.everyInode(), "the only free inode is in group 0",
             "remove(0, 7) = 5", "create(12, 6, true) = 5", "cached(1, 27) = 3");
         Calls.run("the least free one of that group",
@@ -204,6 +219,9 @@ public final class TermsTakingTest {
         Calls.on(Setups.everyBlock(), "a file whose block is 35, after which there is none",
             "cut(14, 2) = 1", "create(12, 3, false) = 15", "write(15, 0, 1) = 35", "cut(13, 2) = 1",
             "write(15, 8, 1) = 32", "cut(14, 1) = 1", "write(15, 16, 1) = 34");
+        Calls.on(Setups.everyBlock(), "the block right after is the last of a group",
+            "cut(14, 2) = 1", "cut(13, 0) = 3", "write(14, 16, 1) = 35", "cut(8, 2) = 1", "cut(7, 0) = 3",
+            "write(8, 16, 1) = 23", "cut(3, 2) = 1", "cut(1, 0) = 3", "write(3, 16, 1) = 11");
         Calls.on(Setups.everyBlock(), "of the block's group, though the file's inode is of another",
             "cut(4, 1) = 2", "cut(1, 0) = 3", "write(4, 8, 1) = 16", "write(4, 16, 1) = 17", "cut(4, 0) = 3",
             "write(4, 8, 1) = 3", "write(4, 0, 1) = 4");
