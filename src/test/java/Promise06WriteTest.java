@@ -24,9 +24,12 @@ public final class Promise06WriteTest {
         Calls.on(Setups.everyBlock(), "the last free block, and none",
             "cut(14, 2) = 1", "write(14, 16, 1) = 35", "image(0, 1) = 0", "create(12, 3, false) = 15",
             "write(15, 0, 1) = FULL", "image(0, 1) = 1", "cached(25, 17) = 0", "read(15, 0) = 0");
-        Calls.on(Setups.everyBlock(), "a SYNC frees one: that right after the pointer before, if it is that",
+        Calls.on(Setups.everyBlock(), "a SYNC frees two, and when they are taken there is none",
             "create(12, 3, false) = 15", "sync() = 3", "cut(1, 1) = 2", "cached(0, 8) = 1", "write(1, 16, 9) = 4",
             "image(0, 8) = 0", "write(1, 8, 9) = 5", "write(15, 0, 9) = FULL");
+        Calls.on(Setups.everyBlock(), "a SYNC frees two: that right after the pointer before, not the least",
+            "sync() = 3", "cut(1, 2) = 1", "cut(2, 2) = 1", "write(2, 16, 9) = 8", "image(0, 9) = 0",
+            "write(1, 16, 9) = 5");
         Due.end();
     }
 

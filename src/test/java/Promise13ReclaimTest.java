@@ -31,6 +31,10 @@ public final class Promise13ReclaimTest {
             "create(0, 1, true) = 6", "create(6, 2, false) = 7", "link(0, 3, 7) = 2", "sync() = 3",
             "remove(6, 2) = 7", "remove(0, 1) = 6", "flush(2) = 0", "crash() = true", "cached(13, 6) = 2",
             "reclaim() = 2", "cached(13, 6) = 1", "lookup(0, 3) = 7");
+        Calls.run("nor do those of a directory with a greater number",
+            "create(0, 1, true) = 6", "create(0, 2, false) = 1", "link(6, 1, 1) = 2", "sync() = 3", "remove(6, 1) = 1",
+            "remove(0, 1) = 6", "flush(2) = 0", "crash() = true", "cached(14, 0) = 33", "cached(1, 6) = 2",
+            "reclaim() = 2", "cached(1, 6) = 1", "image(1, 6) = 1");
         Calls.run("a SYNC comes first",
             "create(0, 1, true) = 6", "write(6, 0, 1) = NONE", "create(6, 2, false) = 7", "write(7, 0, 3) = 15",
             "reclaim() = 0", "crash() = true", "read(7, 0) = 3", "cut(7, 0) = 1", "reclaim() = 0",

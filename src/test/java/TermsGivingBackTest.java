@@ -46,6 +46,11 @@ public final class TermsGivingBackTest {
             "create(0, 1, true) = 6", "create(6, 1, false) = 7", "write(7, 0, 1) = 15", "create(0, 2, false) = 1",
             "write(1, 0, 1) = 3", "sync() = 3", "cut(7, 0) = 1", "cut(1, 0) = 1", "flush(1) = 0", "cached(0, 7) = 0",
             "cached(12, 7) = 1", "flush(25) = 0", "cached(12, 7) = 1", "flush(13) = 0", "cached(12, 7) = 0");
+        Calls.run("LINKS that are as its number are no pointer to it",
+            "create(0, 1, false) = 1", "link(0, 2, 1) = 2", "link(0, 3, 1) = 3", "create(0, 4, false) = 2",
+            "write(2, 0, 8) = 3", "sync() = 2", "write(2, 0, 9) = 3", "cut(2, 0) = 1", "image(1, 6) = 3",
+            "cached(1, 6) = 3", "flush(1) = 0", "cached(0, 7) = 0", "flush(3) = 0", "image(3, 0) = 8", "sync() = 1",
+            "sync() = 0", "image(3, 0) = 8");
         Calls.run("some of three pointers",
             "create(0, 1, false) = 1", "write(1, 0, 1) = 3", "write(1, 8, 1) = 4", "sync() = 2", "write(1, 16, 1) = 5",
             "cut(1, 0) = 3", "cached(0, 7) = 1", "cached(0, 8) = 1", "cached(0, 9) = 0", "flush(1) = 0",

@@ -133,6 +133,9 @@ public final class TermsLayoutTest {
             "remove(8, 1) = 10", "cached(15, 7) = 41", "cached(17, 0) = 73");
         Calls.on(between(41, 73), "nor in LINKS",
             "sync() = 3", "defects(4) = 0", "defects(5) = 0", "reclaim() = 0", "cached(13, 16) = 1", "image(13, 16) = 1");
+        Calls.on(between(41, 73), "nor do they bring an inode into the tree",
+            "write(9, 0, 5) = 18", "sync() = 3", "remove(6, 2) = 9", "cached(13, 15) = 1", "read(9, 0) = 0",
+            "write(9, 0, 6) = NONE", "link(0, 9, 9) = NONE", "flush(14) = 0", "image(14, 1) = 0", "defects(3) = 1");
         Calls.on(between(41, 73), "nor are they written back with it",
             "sync() = 3", "write(7, 7, 5) = 15", "write(7, 8, 6) = 17", "flush(16) = 0", "image(15, 7) = 41",
             "image(17, 0) = 73", "flush(15) = 0", "image(15, 7) = 5", "flush(17) = 0", "image(17, 0) = 6",

@@ -222,6 +222,9 @@ public final class TermsTakingTest {
         Calls.on(Setups.everyBlock(), "the block right after is the last of a group",
             "cut(14, 2) = 1", "cut(13, 0) = 3", "write(14, 16, 1) = 35", "cut(8, 2) = 1", "cut(7, 0) = 3",
             "write(8, 16, 1) = 23", "cut(3, 2) = 1", "cut(1, 0) = 3", "write(3, 16, 1) = 11");
+        Calls.on(Setups.everyBlock(), "otherwise beginning with the group of the file's inode, not of the block before",
+            "cut(4, 1) = 2", "create(6, 4, false) = 10", "write(10, 0, 1) = 16", "cut(1, 0) = 3", "write(4, 8, 1) = 3",
+            "cached(12, 9) = 0");
         Calls.on(Setups.everyBlock(), "of the block's group, though the file's inode is of another",
             "cut(4, 1) = 2", "cut(1, 0) = 3", "write(4, 8, 1) = 16", "write(4, 16, 1) = 17", "cut(4, 0) = 3",
             "write(4, 8, 1) = 3", "write(4, 0, 1) = 4");
