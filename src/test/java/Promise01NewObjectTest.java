@@ -6,6 +6,7 @@ public final class Promise01NewObjectTest {
             "sync() = 0", "defects(0) = 0", "defects(1) = 0", "defects(2) = 0", "defects(3) = 0",
             "defects(4) = 0", "defects(5) = 0", "lookup(0, 1) = NONE", "reclaim() = 0", "crash() = true",
             "sync() = 0", "create(0, 1, false) = 1");
+        Calls.run("no directory has been renamed since the beginning", "crash() = true", "sync() = 0");
         apart();
         Due.end();
     }

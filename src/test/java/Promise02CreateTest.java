@@ -7,6 +7,7 @@ public final class Promise02CreateTest {
         places();
         noInode();
         noBlock();
+        whatTheTermsSay();
         edges();
         Due.end();
     }
@@ -120,6 +121,21 @@ public final class Promise02CreateTest {
             "sync() = 3", "cut(1, 2) = 1", "create(6, 1, true) = 12", "cached(25, 2) = 5", "image(1, 9) = 0");
         Calls.on(withoutBlocks(), "the block of another group",
             "cut(1, 2) = 1", "create(6, 1, true) = 12", "cached(25, 2) = 5", "cached(0, 9) = 1");
+    }
+
+    private static void whatTheTermsSay() {
+        Calls.run("d is of the tree: not a directory that has a KIND and no entry any more",
+            "create(0, 1, true) = 6", "sync() = 3", "remove(0, 1) = 6", "cached(13, 0) = 2", "cached(14, 0) = 0",
+            "create(6, 1, false) = NONE", "create(6, 1, true) = NONE", "cached(14, 0) = 0");
+        Calls.run("the most FREE inodes: one with a KIND and no mark is not FREE",
+            "create(0, 1, true) = 6", "flush(13) = 1", "crash() = true", "cached(12, 0) = 0", "cached(13, 0) = 2",
+            "create(0, 1, true) = 12", "create(0, 2, true) = 1");
+        Calls.run("the entry is YOUNG until the table of its inode is written back",
+            "create(0, 1, false) = 1", "flush(0) = 0", "flush(2) = 1", "image(2, 0) = 0", "flush(1) = 0",
+            "flush(2) = 0", "image(2, 0) = 33");
+        Calls.on(Setups.fileWordsBelow(), "cells of a FRESH block are places, whatever the disk has there",
+            "create(2, 5, false) = 3", "cached(3, 0) = 163", "create(2, 3, true) = 8", "cached(3, 1) = 104",
+            "image(3, 0) = 99");
     }
 
     private static void edges() {

@@ -35,6 +35,18 @@ public final class Promise03LinkTest {
         Calls.on(Setups.everyInode(), "without a free inode or a SYNC",
             "link(0, 8, 17) = 2", "image(0, 1) = 0", "link(12, 8, 1) = 2", "cached(26, 5) = 257", "image(0, 1) = 0");
         Calls.on(Setups.everyBlock(), "without a free block or a SYNC", "link(0, 8, 14) = 2", "image(0, 1) = 0");
+        Calls.run("EXISTS by what is in memory: a name that the disk alone has is not in use",
+            "create(0, 1, false) = 1", "create(0, 2, false) = 2", "sync() = 1", "remove(0, 1) = 1", "image(2, 0) = 33",
+            "link(0, 1, 2) = 2", "cached(2, 2) = 34", "lookup(0, 1) = 2", "link(0, 1, 2) = EXISTS");
+        Calls.run("d and i are of the tree: not those that have a KIND and no entry any more",
+            "create(0, 1, true) = 6", "create(0, 2, false) = 1", "create(0, 3, false) = 2", "sync() = 3",
+            "remove(0, 1) = 6", "remove(0, 2) = 1", "cached(13, 0) = 2", "cached(1, 5) = 1", "link(6, 1, 2) = NONE",
+            "link(0, 4, 1) = NONE", "link(0, 4, 2) = 2");
+        Calls.run("the entry is YOUNG until the table of its inode is written back",
+            "create(0, 1, false) = 1", "sync() = 1", "link(0, 2, 1) = 2", "flush(2) = 1", "image(2, 1) = 0",
+            "flush(1) = 0", "image(1, 6) = 2", "flush(2) = 0", "image(2, 1) = 65");
+        Calls.on(Setups.fileWordsBelow(), "cells of a FRESH block are places, whatever the disk has there",
+            "link(2, 5, 1) = 2", "cached(3, 0) = 161", "link(2, 3, 1) = 3", "cached(3, 1) = 97", "image(3, 0) = 99");
         Due.end();
     }
 }

@@ -7,6 +7,16 @@ public final class Promise04RemoveTest {
         later();
         directories();
         severalOfOneName();
+        Calls.run("d is of the tree: not a directory that a crash left without an entry",
+            "create(0, 1, true) = 6", "create(6, 2, false) = 7", "sync() = 3", "remove(6, 2) = 7",
+            "remove(0, 1) = 6", "flush(2) = 0", "crash() = true", "cached(13, 0) = 2", "cached(14, 0) = 71",
+            "remove(6, 2) = NONE", "cached(14, 0) = 71", "cached(13, 6) = 1");
+        Calls.on(Setups.fileWordsBelow(), "LINKS fall at once in a FRESH block, whatever the disk has there",
+            "create(2, 5, false) = 3", "cached(1, 16) = 1", "remove(2, 5) = 3", "cached(1, 16) = 0",
+            "cached(1, 15) = 0", "cached(0, 3) = 0", "image(3, 0) = 99");
+        Calls.on(Setups.fileWordsBelow(), "no LINKS fall for what the disk has in a FRESH block that is freed",
+            "create(0, 7, false) = 3", "remove(0, 6) = 2", "cached(0, 7) = 0", "cached(1, 16) = 1",
+            "cached(1, 15) = 1", "cached(1, 6) = 1", "lookup(0, 7) = 3");
         Due.end();
     }
 

@@ -6,6 +6,21 @@ public final class Promise05RenameTest {
         order();
         places();
         edges();
+        Calls.run("d and e are of the tree: not those that a crash left without an entry",
+            "create(0, 1, true) = 6", "create(6, 2, false) = 7", "create(0, 3, false) = 1", "sync() = 3",
+            "remove(6, 2) = 7", "remove(0, 1) = 6", "flush(2) = 0", "crash() = true", "cached(13, 0) = 2",
+            "cached(14, 0) = 71", "rename(6, 2, 0, 5) = NONE", "rename(0, 3, 6, 5) = NONE", "rename(6, 2, 6, 5) = NONE",
+            "cached(14, 0) = 71", "cached(14, 1) = 0", "lookup(0, 3) = 1");
+        Calls.run("EXISTS by what is in memory: a name that the disk alone has is not in use",
+            "create(0, 1, false) = 1", "create(0, 2, false) = 2", "sync() = 1", "remove(0, 1) = 1", "image(2, 0) = 33",
+            "rename(0, 2, 0, 1) = 2", "lookup(0, 1) = 2", "lookup(0, 2) = NONE");
+        Calls.run("the new entry is YOUNG, and the old one stays on the disk until the new one is there",
+            "create(0, 1, false) = 1", "sync() = 1", "rename(0, 1, 0, 2) = 1", "cached(1, 6) = 2", "flush(2) = 2",
+            "flush(1) = 0", "flush(2) = 1", "image(2, 0) = 33", "image(2, 1) = 65", "flush(2) = 0",
+            "image(2, 0) = 0", "cached(1, 6) = 1");
+        Calls.on(Setups.fileWordsBelow(), "into and out of a FRESH block, whatever the disk has there",
+            "rename(0, 1, 2, 5) = 1", "cached(3, 0) = 161", "cached(1, 6) = 2", "rename(2, 5, 0, 9) = 1",
+            "cached(1, 6) = 2", "cached(3, 0) = 0", "lookup(0, 9) = 1");
         Due.end();
     }
 

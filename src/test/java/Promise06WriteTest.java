@@ -30,6 +30,9 @@ public final class Promise06WriteTest {
         Calls.on(Setups.everyBlock(), "a SYNC frees two: that right after the pointer before, not the least",
             "sync() = 3", "cut(1, 2) = 1", "cut(2, 2) = 1", "write(2, 16, 9) = 8", "image(0, 9) = 0",
             "write(1, 16, 9) = 5");
+        Calls.run("i is of the tree: not a file that has a KIND and no entry any more",
+            "create(0, 1, false) = 1", "write(1, 0, 5) = 3", "sync() = 2", "remove(0, 1) = 1", "cached(1, 5) = 1",
+            "write(1, 0, 6) = NONE", "cached(3, 0) = 5", "write(1, 8, 6) = NONE", "cached(0, 8) = 0");
         Due.end();
     }
 

@@ -13,6 +13,10 @@ public final class Promise07ReadTest {
         Calls.run("what is in memory, not on the disk",
             "create(0, 1, false) = 1", "write(1, 0, 5) = 3", "sync() = 2", "write(1, 0, 6) = 3", "read(1, 0) = 6",
             "image(3, 0) = 5", "crash() = true", "read(1, 0) = 5");
+        Calls.run("no word beyond the last one, whatever stands behind the pointers of the file",
+            "create(0, 1, false) = 1", "create(0, 2, true) = 6", "create(0, 3, true) = 12", "create(0, 4, true) = 7",
+            "create(0, 5, true) = 13", "create(0, 6, true) = 2", "cached(1, 10) = 2", "cached(2, 0) = 33",
+            "read(1, 24) = 0", "read(1, 25) = 0", "read(1, 31) = 0", "read(1, -1) = 0", "read(1, -8) = 0");
         Due.end();
     }
 }

@@ -32,6 +32,15 @@ public final class Promise08CutTest {
             "cut(18, 0) = NONE", "cut(13, 0) = 0");
         Calls.on(Setups.everyBlock(), "block 35", "cut(14, 2) = 1", "cached(24, 15) = 0", "cut(14, 0) = 2",
             "cached(24, 13) = 0");
+        Calls.run("i is of the tree: not a file that has a KIND and no entry any more",
+            "create(0, 1, false) = 1", "write(1, 0, 5) = 3", "sync() = 2", "remove(0, 1) = 1", "cached(1, 5) = 1",
+            "cached(1, 7) = 3", "cut(1, 0) = NONE", "cut(1, 3) = NONE", "cached(1, 7) = 3");
+        Calls.run("a block that is freed and taken again is dropped no more",
+            "create(0, 1, false) = 1", "write(1, 0, 1) = 3", "cut(1, 0) = 1", "cached(0, 7) = 0", "write(1, 0, 2) = 3",
+            "flush(0) = 0", "cached(0, 7) = 1", "image(0, 7) = 1", "sync() = 2", "image(3, 0) = 2");
+        Calls.run("words of a file are no entries: no LINKS fall for them",
+            "create(0, 1, false) = 1", "create(0, 2, false) = 2", "write(1, 0, 34) = 3", "sync() = 2", "cut(1, 0) = 1",
+            "flush(1) = 0", "cached(0, 7) = 0", "image(3, 0) = 34", "cached(1, 11) = 1", "cached(1, 10) = 1");
         Due.end();
     }
 }

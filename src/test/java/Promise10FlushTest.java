@@ -8,6 +8,12 @@ public final class Promise10FlushTest {
         entries();
         lostWays();
         dataBlocks();
+        Calls.run("an entry goes from the disk though memory has an inode that the disk has not",
+            "create(0, 1, false) = 1", "sync() = 1", "remove(0, 1) = 1", "create(0, 2, false) = 2", "flush(2) = 1",
+            "image(2, 0) = 0", "image(2, 1) = 0");
+        Calls.on(Setups.everyBlock(), "a pointer to the last block waits for its mark and its cells",
+            "flush(25) = 7", "image(25, 14) = 0", "flush(24) = 0", "flush(25) = 7", "flush(35) = 0", "flush(25) = 6",
+            "image(25, 14) = 35", "image(25, 13) = 0");
         Due.end();
     }
 

@@ -19,6 +19,12 @@ public final class Promise11SyncTest {
             "create(0, 1, true) = 6", "create(6, 2, true) = 12", "sync() = 3", "rename(6, 2, 0, 2) = 12",
             "rename(0, 1, 12, 1) = 6", "sync() = 3", "image(2, 0) = 0", "image(2, 1) = 76", "image(26, 0) = 38",
             "image(14, 0) = 0", "crash() = true", "lookup(12, 1) = 6");
+        Calls.on(Setups.everyBlock(), "the last block too",
+            "sync() = 3", "image(35, 0) = 135", "image(34, 0) = 134", "image(25, 14) = 35", "sync() = 0",
+            "write(14, 23, 9) = 35", "sync() = 1", "image(35, 7) = 9");
+        Calls.run("a data block that no pointer names is not looked at",
+            "create(0, 1, false) = 1", "write(1, 0, 5) = 3", "cut(1, 0) = 1", "cached(3, 0) = 5", "sync() = 1",
+            "image(3, 0) = 0", "sync() = 0");
         same();
         Due.end();
     }

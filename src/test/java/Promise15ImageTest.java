@@ -16,6 +16,12 @@ public final class Promise15ImageTest {
         Calls.run("a FRESH block as it stands",
             "create(0, 1, false) = 1", "write(1, 0, 5) = 3", "sync() = 2", "cut(1, 0) = 1", "flush(1) = 0",
             "write(1, 0, 6) = 3", "image(3, 0) = 5", "flush(3) = 0", "image(3, 0) = 6");
+        Calls.on(Setups.everyBlock(), "the last cell of a MAP and of a DATA block",
+            "write(14, 23, 9) = 35", "image(24, 15) = 0", "sync() = 3",
+            "image(24, 15) = 1", "image(0, 15) = 1", "image(24, 16) = 0", "image(35, 7) = 9");
+        Calls.on(Setups.everyInode(), "the last cell of a TABLE",
+            "write(5, 16, 1) = 3", "image(1, 29) = 0", "sync() = 3",
+            "image(1, 29) = 3", "image(1, 30) = 0", "image(24, 5) = 1", "image(25, 25) = 1", "image(25, 29) = 0");
         Due.end();
     }
 }

@@ -18,6 +18,12 @@ public final class Promise16CachedTest {
             "create(0, 1, false) = 1", "write(1, 0, 5) = 3", "sync() = 2", "cut(1, 0) = 1", "cached(3, 0) = 5",
             "flush(1) = 0", "cached(0, 7) = 0", "cached(3, 0) = 5", "write(1, 1, 6) = 3", "cached(3, 0) = 0",
             "cached(3, 1) = 6", "image(3, 0) = 5", "image(3, 1) = 0");
+        Calls.on(Setups.everyBlock(), "the last cell of a MAP and of a DATA block",
+            "write(14, 23, 9) = 35",
+            "cached(24, 15) = 1", "cached(0, 15) = 1", "cached(24, 16) = 0", "cached(35, 7) = 9");
+        Calls.on(Setups.everyInode(), "the last cell of a TABLE",
+            "write(5, 16, 1) = 3",
+            "cached(1, 29) = 3", "cached(1, 30) = 0", "cached(24, 5) = 1", "cached(25, 25) = 1", "cached(25, 29) = 0");
         Due.end();
     }
 }

@@ -68,6 +68,17 @@ final class Setups {
             "write(14, 0, 133) = 33", "write(14, 8, 134) = 34", "write(14, 16, 135) = 35");
     }
 
+    /**
+     * Directory 2 is new, in a block 3 whose words on the disk are those of a file and look like entries:
+     * name 3, inode 3, and name 4, inode 1. Inode 1 is that file; inode 3 is not taken.
+     */
+    static OrderedVolume fileWordsBelow() {
+        return after("create(0, 1, false) = 1", "write(1, 0, 99) = 3", "write(1, 1, 129) = 3", "sync() = 2",
+            "cut(1, 0) = 1", "flush(1) = 0", "create(0, 2, true) = 6", "create(0, 3, true) = 12",
+            "create(0, 4, true) = 7", "create(0, 5, true) = 13", "create(0, 6, true) = 2", "cached(1, 12) = 3",
+            "image(3, 0) = 99", "image(3, 1) = 129");
+    }
+
     /** After a crash the root has the name 1 twice: cell 0 names inode 1, cell 2 inode 2; cell 1 is name 2, inode 1. */
     static OrderedVolume oneNameTwice() {
         return after("create(0, 1, false) = 1", "sync() = 1", "rename(0, 1, 0, 2) = 1", "create(0, 1, false) = 2",
